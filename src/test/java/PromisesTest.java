@@ -125,7 +125,7 @@ public final class PromisesTest {
         add(x, ZERO, regs(0, 7, 7), 6);
         add(x, RETURN, 511, 99);
         add(x, CALL, 511, 8);
-        add(x, JUMP, 511, 5);
+        add(x, JUMP, regs(1, 7, 7), 5);
         add(x, RETURN, 511, 99);
         due("2 run", 9, x.run(200));
         due("2 position", 5, x.position());
