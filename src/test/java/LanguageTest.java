@@ -136,24 +136,36 @@ public final class LanguageTest {
         MIN, MIN + 1, -513, -201, -31, -25, -9, -8, -2, -1, 0, 1, 2, 3, 4, 5, 6, 7, 8, 9, 22, 23, 24, 25, 28, 29, 30,
         31, 123, 124, 125, 199, 200, 201, 511, 512, 513, MAX - 1, MAX};
 
-    private static int seed;
+    private static final int KINDS_OF_CALL = 15;
 
-    private static int hostile() {
-        seed = seed * 1103515245 + 12345;
-        return HOSTILE[(seed >>> 8) % HOSTILE.length];
+    // A fixed sequence of numbers, so that every run of the test makes the same calls.
+    private static long seed;
+    private static final int[] made = new int[KINDS_OF_CALL];
+    private static int deepest = 0;
+
+    private static int pick(int bound) {
+        seed = seed * 6364136223846793005L + 1442695040888963407L;
+        return (int) ((seed >>> 33) % bound);
     }
 
-    /** Calls the method of a number with whatever comes, and answers a number for its answer. */
-    private static int anyCall(WindowedCalls x, int method) {
-        switch (method) {
+    private static int hostile() {
+        return HOSTILE[pick(HOSTILE.length)];
+    }
+
+    /** Makes a call of that kind with whatever arguments come, and answers a number for its answer. */
+    private static int anyCall(WindowedCalls x, int kind) {
+        made[kind]++;
+        switch (kind) {
             case 0: return x.emit(hostile(), hostile(), hostile());
             case 1: return x.emit(hostile() & 7, hostile() & 511, hostile());
-            case 2: return x.emit(5, 0, hostile() & 15);
+            case 2: return x.emit(5, 0, pick(8));
             case 3: return x.drop();
             case 4: return x.run(hostile());
             case 5: return x.halted() ? 1 : 0;
             case 6: return x.position();
-            case 7: return x.depth();
+            case 7:
+                deepest = Math.max(deepest, x.depth());
+                return x.depth();
             case 8: return x.register(hostile());
             case 9: return x.below(hostile(), hostile());
             case 10: return x.put(hostile(), hostile()) ? 1 : 0;
@@ -161,9 +173,7 @@ public final class LanguageTest {
             case 12: return x.digest();
             case 13: return x.done();
             default:
-                if (hostile() < 4) {
-                    x.restart();
-                }
+                x.restart();
                 return 0;
         }
     }
@@ -174,7 +184,7 @@ public final class LanguageTest {
         WindowedCalls x = new WindowedCalls();
         long mixed = 0;
         for (int i = 0; i < calls; i++) {
-            mixed = 31 * mixed + anyCall(x, (hostile() & 0xffff) % 15);
+            mixed = 31 * mixed + anyCall(x, pick(KINDS_OF_CALL));
         }
         return mixed;
     }
@@ -184,6 +194,11 @@ public final class LanguageTest {
             answersOf(run, 512);
         }
         answersOf(7, 300000);
+        // Without these the sequence would have stopped reaching what it is there for.
+        for (int kind = 0; kind < KINDS_OF_CALL; kind++) {
+            check(7, "calls of kind " + kind + " were made", made[kind] > 0);
+        }
+        check(7, "the runs reach 30 calls, they reached " + deepest, deepest == 30);
     }
 
     private static Set<String> callsOf(String method) {
