@@ -86,6 +86,8 @@ public final class LanguageTest {
             Class<?> type = f.getType().isArray() ? f.getType().getComponentType() : f.getType();
             check(2, f + " has an allowed type", NUMBER_TYPES.contains(type.getName()));
         }
+        check(2, "the class names itself where it and its constructor begin, not as a type",
+            code.split("\\bWindowedCalls\\b", -1).length == 3);
     }
 
     private static void rule3NoLibrary() {
@@ -110,8 +112,14 @@ public final class LanguageTest {
         for (Method m : WindowedCalls.class.getDeclaredMethods()) {
             check(4, m + " answers no array", !m.getReturnType().isArray());
         }
+        for (Map.Entry<String, String> e : bodies.entrySet()) {
+            check(4, "no local variable of " + e.getKey() + " names an array",
+                !Pattern.compile("\\b\\w+\\s*\\[\\s*\\]").matcher(e.getValue()).find());
+        }
         for (Field f : WindowedCalls.class.getDeclaredFields()) {
             check(4, f + " stays the same array", !f.getType().isArray() || Modifier.isFinal(f.getModifiers()));
+            check(4, f + " is never named but for an element of it, so never compared",
+                !f.getType().isArray() || !has("\\b" + f.getName() + "\\b(?! = new |\\[)"));
         }
     }
 
@@ -130,6 +138,7 @@ public final class LanguageTest {
     private static void rule6Words() {
         without(6, "throw", "throws", "try", "catch", "finally", "synchronized", "assert", "instanceof");
         check(6, "no lambda and no method reference", !code.contains("->") && !code.contains("::"));
+        check(6, "no cast to an array", !has("\\[\\s*\\]\\s*\\)\\s*[\\w(]"));
     }
 
     private static final int[] HOSTILE = {
